@@ -221,6 +221,24 @@ public final class PromiseTest {
         patternIs("after copying", m, 5, 4, 0, "121", "002");
         patternIs("after copying", m, 5, 4, 1, "10", "21", "02");
         patternIs("after copying", m, 5, 4, 2, "2");
+        copyKeepsToItsPattern();
+    }
+
+    private static void copyKeepsToItsPattern() {
+        TwoDimMatcher m = new TwoDimMatcher(12, 12);
+        pattern(m, 0, "1212", "2121", "1212", "2121");
+        m.stamp(0, 8, 8);
+        m.stamp(0, 0, 0);
+        for (int p = 0; p < 3; p++) {
+            m.shape(p, 4, 4);
+        }
+        due("copy(2, 8, 8) from the last corner", m.copy(2, 8, 8), true);
+        due("copy(0, 0, 0) from text with more around it", m.copy(0, 0, 0), true);
+        due("copy(1, 4, 4)", m.copy(1, 4, 4), true);
+        due("copy(0, 8, 8) from the last corner", m.copy(0, 8, 8), true);
+        patternIs("after the others", m, 12, 12, 1, "0000", "0000", "0000", "0000");
+        patternIs("after the others", m, 12, 12, 2, "1212", "2121", "1212", "2121");
+        patternIs("after the others", m, 12, 12, 0, "1212", "2121", "1212", "2121");
     }
 
     private static void stamp() {
@@ -346,6 +364,12 @@ public final class PromiseTest {
         due("next after the last place", great.next(0, 188), TwoDimMatcher.NONE);
         m.write(0, 0, 1);
         due("next(0, 0) at the first place", m.next(0, 0), 0);
+        TwoDimMatcher tall = new TwoDimMatcher(4, 9);
+        tall.write(3, 8, 1);
+        due("next at the end of a tall text", tall.next(0, 0), 16 * 8 + 3);
+        TwoDimMatcher wide = new TwoDimMatcher(9, 4);
+        wide.write(8, 3, 1);
+        due("next at the end of a wide text", wide.next(0, 0), 16 * 3 + 8);
     }
 
     private static void covered() {
@@ -377,6 +401,22 @@ public final class PromiseTest {
         great.shape(0, 4, 4);
         great.shape(1, 4, 4);
         due("covered in the middle and in parts", great.covered(), 16 + 4 * 16);
+        coveredByLongPatterns();
+    }
+
+    private static void coveredByLongPatterns() {
+        TwoDimMatcher tall = new TwoDimMatcher(4, 9);
+        pattern(tall, 0, "1", "2", "1", "2");
+        tall.stamp(0, 3, 5);
+        pattern(tall, 1, "22");
+        pattern(tall, 2, "22");
+        due("covered by a high pattern in a tall text", tall.covered(), 4);
+        TwoDimMatcher wide = new TwoDimMatcher(9, 4);
+        pattern(wide, 0, "1212");
+        wide.stamp(0, 5, 3);
+        pattern(wide, 1, "2", "2");
+        pattern(wide, 2, "2", "2");
+        due("covered by a broad pattern in a wide text", wide.covered(), 4);
     }
 
     private static void overlaps() {
@@ -407,6 +447,11 @@ public final class PromiseTest {
         apart.stamp(0, 2, 2);
         apart.stamp(0, 5, 0);
         due("overlaps of occurrences that only touch", apart.overlaps(0), 0);
+        TwoDimMatcher tall = new TwoDimMatcher(4, 9);
+        pattern(tall, 0, "1", "1");
+        tall.stamp(0, 3, 6);
+        tall.stamp(0, 3, 7);
+        due("overlaps at the end of a tall text", tall.overlaps(0), 1);
         TwoDimMatcher great = new TwoDimMatcher(12, 12);
         great.shape(1, 4, 4);
         // Of 9 columns, 51 ordered couples are at most 3 apart, and so of 9 rows; 81 couples are a place with itself.
